@@ -825,11 +825,7 @@ public final class TillPairs {
 
         /** SEEN of a day on which two sit. */
         int seenOn(int day) {
-            return seenIf(day, home.hasSurprise(day));
-        }
-
-        private int seenIf(int day, boolean surprise) {
-            return seenOf(home.pairOn(day), home.at(day, BOOK), home.at(day, COUNT), surprise);
+            return seenOf(home.pairOn(day), home.at(day, BOOK), home.at(day, COUNT), home.hasSurprise(day));
         }
 
         int worthOf(int trust, int seen) {
@@ -842,7 +838,9 @@ public final class TillPairs {
         }
 
         private int worthIf(int day, boolean surprise) {
-            return worthOf(trustOfPair(home.pairOn(day), day), seenIf(day, surprise));
+            int pair = home.pairOn(day);
+            int seen = seenOf(pair, home.at(day, BOOK), home.at(day, COUNT), surprise);
+            return worthOf(trustOfPair(pair, day), seen);
         }
 
         boolean isPaying(int worth, int tell) {
@@ -903,7 +901,7 @@ public final class TillPairs {
             if (home.satInGap(pair, day)) {
                 return 4;
             }
-            return isPaying(worthOn(day), home.laws[TELL]) ? 5 : 0;
+            return isPaying(worthIf(day, home.hasSurprise(day)), home.laws[TELL]) ? 5 : 0;
         }
 
         private boolean somebodyIsAway(int day) {
@@ -1293,9 +1291,13 @@ public final class TillPairs {
             return (set >> p & 1) == 1;
         }
 
-        // Seven at most, so that no empty set, which never comes here, could lead out of an array.
         private static int leastOf(int set) {
-            return Math.min(Integer.numberOfTrailingZeros(set), PEOPLE - 1);
+            for (int p = 0; p < PEOPLE; p++) {
+                if (isIn(set, p)) {
+                    return p;
+                }
+            }
+            return NOBODY;
         }
     }
 
