@@ -126,9 +126,42 @@ public final class ModelRuns {
                 same(run, call++, "person", x.person(), m.person());
             }
         }
+        if (run % 2 == 0) {
+            call += sitAndTrust(run, call, x, m);
+        }
         while (call < CALLS) {
             call += oneCall(run, call, x, m);
         }
+    }
+
+    /** Days on which two sit who trust each other, so that it may pay. */
+    private static int sitAndTrust(int run, int call, TillPairs x, Model m) {
+        int people = Math.min(m.people, 2 + below(3));
+        int calls = 0;
+        for (int p = 0; p < people; p++) {
+            for (int q = 0; q < p; q++) {
+                int v = below(10);
+                same(run, call + calls++, "trust", x.trust(p, q, v), m.trust(p, q, v));
+            }
+        }
+        for (int day = 0; day < 10; day++) {
+            int p = below(people + 1) - 1, q = below(people + 1) - 1;
+            same(run, call + calls++, "post", x.post(day, 0, p), m.post(day, 0, p));
+            same(run, call + calls++, "post", x.post(day, 1, q), m.post(day, 1, q));
+        }
+        for (int law = 0; law < 8; law++) {
+            int v = below(law == 0 ? 21 : law == 1 ? 60 : 4);
+            same(run, call + calls++, "set", x.set(law, v), m.set(law, v));
+        }
+        for (int p = 0; p < people; p++) {
+            for (int q = 0; q < p; q++) {
+                same(run, call + calls++, "best", x.best(p, q, 0), m.best(p, q, 0));
+                same(run, call + calls++, "best", x.best(p, q, 1), m.best(p, q, 1));
+                same(run, call + calls++, "lot", x.lot(p, q, 0), m.lot(p, q, 0));
+                same(run, call + calls++, "lot", x.lot(p, q, 1), m.lot(p, q, 1));
+            }
+        }
+        return calls;
     }
 
     private static int oneCall(int run, int c, TillPairs x, Model m) {

@@ -42,6 +42,7 @@ public final class PromiseTests {
         fillByRest();
         fillByDraw();
         fillByCount();
+        fillByCountNotKin();
         fillAsTold();
         seed();
         rows();
@@ -221,14 +222,28 @@ public final class PromiseTests {
         fault(";", 0);
         fault("person;person;person;person;person;person;person;person; person;", 57);
         fault("gap 9999999999999999999999;", 4);
+        fault("xerson;", 0);
+        fault("persoz;", 0);
+        fault("person;person;trust 2 1 1;", 20);
+        fault("person;person;trust 0 2 1;", 22);
+        fault("person;away 0 xn 1;", 14);
+        String blanks = " ".repeat(194);
+        fault(blanks + "person", 200);
+        fault(blanks + "take 5", 200);
+        fault(blanks + "take 21".substring(1), 194);
+        fault(blanks + "perzzz", 194);
+        fault(" ".repeat(183) + "person;away 0 on ", 200);
     }
 
     private static void houseKeepsAndDrops() {
         TillPairs x = with(2);
         x.kin(0, 1, true);
         till(x, 4, 0, 1);
+        till(x, 9, 0, 1);
+        x.surprise(0, true);
         x.surprise(4, true);
         x.loss(4, 9);
+        x.loss(9, 9);
         x.set(0, 11);
         x.plan(2, 3);
         x.seed(77);
@@ -242,8 +257,12 @@ public final class PromiseTests {
         due(3, "another house", told(x, "person;person;person;"), 3);
         due(3, "no rows", x.many(3), 0);
         due(3, "empty posts", x.postOf(4, 0), -9);
+        due(3, "empty posts on the last day", x.postOf(9, 1), -9);
         due(3, "no surprise", x.surprise(4, false), 0);
+        due(3, "no surprise on the first day", x.surprise(0, false), 0);
         due(3, "no loss", x.loss(4, 0), 0);
+        due(3, "no loss on the last day", x.loss(9, 0), 0);
+        due(3, "nobody is kin", x.kin(2, 1, false), 0);
         due(3, "no kin", x.kin(0, 1, false), 0);
         due(3, "laws untold stay", x.law(0), 11);
         due(3, "plans stay", x.planOf(0, 1), 3);
@@ -455,6 +474,29 @@ public final class PromiseTests {
         due(18, "they leave day 2", x.best(0, 1, 1), 12);
         x.set(2, 12);
         due(18, "it never pays", x.best(0, 1, 0), 0);
+        TillPairs y = with(2);
+        laws(y, 1, 1, 6, 0, 0);
+        y.set(5, 0);
+        y.trust(0, 1, 5);
+        till(y, 9, 0, 1);
+        due(18, "the last day: half 5 less half 1", y.best(0, 1, 0), 2);
+        y.trust(0, 1, 9);
+        till(y, 9, -1, -1);
+        till(y, 0, 0, 1);
+        due(18, "the first day", y.best(0, 1, 0), 4);
+        y.set(2, 2);
+        due(18, "88 by 12 without a common divisor", y.best(0, 1, 0), 22);
+        due(18, "88 by 12 without a common divisor", y.best(0, 1, 1), 3);
+        y.set(2, 4);
+        due(18, "68 by 12", y.best(0, 1, 0), 17);
+        due(18, "68 by 12", y.best(0, 1, 1), 3);
+        y.set(2, 0);
+        y.set(1, 99);
+        due(18, "never seen", y.best(0, 1, 0), 9);
+        y.set(2, 6);
+        y.set(1, 6);
+        due(18, "3 by 2", y.best(0, 1, 0), 3);
+        due(18, "3 by 2", y.best(0, 1, 1), 2);
         due(18, "part 2", x.best(0, 1, 2), BAD);
         due(18, "part -1", x.best(0, 1, -1), BAD);
         due(18, "the same", x.best(0, 0, 0), BAD);
@@ -498,6 +540,13 @@ public final class PromiseTests {
         due(20, "tell helps", x.needed(), 8 | 512);
         x.set(6, 5);
         due(20, "no day again", x.needed(), 0);
+        TillPairs y = with(2);
+        laws(y, 1, 2, 0, 0, 0);
+        y.trust(0, 1, 1);
+        till(y, 0, 0, 1);
+        due(20, "the first day", y.needed(), 1);
+        y.set(1, 1);
+        due(20, "the first day, even with one", y.needed(), NONE);
     }
 
     private static void broken() {
@@ -529,6 +578,19 @@ public final class PromiseTests {
         due(21, "nothing", x.broken(3), 0);
         till(x, 5, 2, 2);
         due(21, "one at both", x.broken(5), 2);
+        for (int post = 0; post < 4; post++) {
+            x.post(6, post, 3);
+            x.away(3, 6, true);
+            due(21, "away at post " + post, x.broken(6), 1);
+            x.away(3, 6, false);
+            due(21, "alone at post " + post, x.broken(6), 0);
+            for (int other = 0; other < post; other++) {
+                x.post(6, other, 3);
+                due(21, "at " + other + " and " + post, x.broken(6), 2);
+                x.post(6, other, -1);
+            }
+            x.post(6, post, -1);
+        }
         due(21, "day 10", x.broken(10), BAD);
         due(21, "day -1", x.broken(-1), BAD);
     }
@@ -560,6 +622,12 @@ public final class PromiseTests {
         due(22, "too few", x.mended(0, 1), NONE);
         due(22, "day 10", x.mended(10, 0), BAD);
         due(22, "what 2", x.mended(0, 2), BAD);
+        x.away(3, 0, false);
+        x.post(0, 0, 1);
+        x.post(0, 1, 2);
+        x.post(0, 2, 0);
+        x.post(0, 3, 0);
+        due(22, "the first one at the book", x.mended(0, 1), digits(1, 2, 0, 3));
         TillPairs y = with(5);
         till(y, 3, 0, 1);
         till(y, 4, 1, 0);
@@ -601,6 +669,11 @@ public final class PromiseTests {
         due(23, "trust 2 pays", y.ahead(0, 3), 0);
         y.set(6, 1);
         due(23, "telling helps", y.ahead(0, 3), 1);
+        y.set(6, 0);
+        y.set(1, 0);
+        due(23, "without trust nothing is worth taking", y.ahead(0, 1), 1);
+        due(23, "with trust it is", y.ahead(0, 2), 0);
+        y.set(1, 2);
         due(23, "day 8, 3", y.ahead(8, 3), BAD);
         due(23, "day 9, 1", y.ahead(9, 1), 1);
         due(23, "day 10", y.ahead(10, 1), BAD);
@@ -657,6 +730,7 @@ public final class PromiseTests {
         due(26, "no two", x.suspects(0), NONE);
         due(26, "what 2", x.suspects(2), BAD);
         x.person();
+        due(26, "two alone", x.suspects(0), 1);
         x.person();
         due(26, "the first two", x.suspects(0), 1);
         due(26, "no loss", x.suspects(1), 0);
@@ -670,6 +744,10 @@ public final class PromiseTests {
         due(26, "as much: the first", x.suspects(0), 2);
         x.loss(0, 6);
         due(26, "the most", x.suspects(1), 6);
+        till(x, 9, 2, 1);
+        x.loss(9, 90);
+        due(26, "the last day too", x.suspects(1), 96);
+        x.loss(9, 0);
         x.loss(5, 99);
         due(26, "a loss on a day when nobody sits", x.suspects(1), 6);
         due(26, "what -1", x.suspects(-1), BAD);
@@ -794,6 +872,32 @@ public final class PromiseTests {
             for (int p = 0; p < 6; p++) {
                 x.kin(p, due[1], false);
             }
+        }
+    }
+
+    private static void fillByCountNotKin() {
+        TillPairs x = with(5);
+        x.plan(3, 0);
+        for (int z = 1; z < 40; z++) {
+            int[] due = drawn(z, new int[] {0, 1, 2, 3, 4});
+            int[] left = new int[2];
+            int many = 0;
+            for (int p = 0; p < 5; p++) {
+                if (p != due[0] && p != due[1] && p != due[2]) {
+                    left[many] = p;
+                    many++;
+                }
+            }
+            for (int post = 0; post < 2; post++) {
+                x.kin(due[post], left[0], true);
+                x.seed(z);
+                due(29, "not the kin of post " + post, x.fill(0, 0), digits(due[0], due[1], due[2], left[1]));
+                x.kin(due[post], left[0], false);
+            }
+            x.kin(due[2], left[0], true);
+            x.seed(z);
+            due(29, "kin at the book is no matter", x.fill(0, 0), digits(due[0], due[1], due[2], left[0]));
+            x.kin(due[2], left[0], false);
         }
     }
 
@@ -1012,6 +1116,9 @@ public final class PromiseTests {
         act(x, 1, 0, 1, 0);
         TillPairs y = new TillPairs();
         y.plan(5, 2);
+        y.plan(2, 2);
+        y.shelf(1, 0, 1);
+        act(y, 1, 3, 3, (24 ^ 2) + 1, 31, 13, 11, 30, 10, 12);
         y.shelf(0, 0, 0);
         act(y, 0, 0, 9, 9, 10);
         act(y, 0, 2, 9, 4 + 2, 61, 12, 10);
@@ -1088,8 +1195,10 @@ public final class PromiseTests {
         x.away(1, 1, true);
         x.set(0, 9);
         till(x, 2, 0, 2);
+        x.post(9, 3, 1);
         x.surprise(2, true);
         x.loss(2, 8);
+        x.loss(9, 7);
         x.plan(2, 6);
         x.seed(123);
         due(44, "keep", x.keep(), 1);
@@ -1099,8 +1208,10 @@ public final class PromiseTests {
         x.away(1, 1, false);
         x.set(0, 3);
         x.post(2, 0, -1);
+        x.post(9, 3, 2);
         x.surprise(2, false);
         x.loss(2, 0);
+        x.loss(9, 0);
         x.plan(3, 7);
         x.prove();
         x.feed(0, 2);
@@ -1118,6 +1229,8 @@ public final class PromiseTests {
             due(45, "posts", x.postOf(2, 0), 0);
             due(45, "surprise", x.surprise(2, true), 0);
             due(45, "loss", x.loss(2, 8), 8);
+            due(45, "posts of the last day", x.postOf(9, 3), 1);
+            due(45, "loss of the last day", x.loss(9, 7), 7);
             due(45, "plans", x.many(1), 1);
             due(45, "a plan", x.planOf(0, 1), 6);
             due(45, "z", x.seed(123), 123);
