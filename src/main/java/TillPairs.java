@@ -1087,7 +1087,7 @@ public final class TillPairs {
                     }
                 }
             }
-            return countRows(0, n);
+            return countRows(this, 0, n);
         }
 
         // The most trust by which nothing would be broken if the pair sat on the day; -1: none at all.
@@ -1108,17 +1108,17 @@ public final class TillPairs {
             return trust;
         }
 
-        private int countRows(int k, int n) {
+        private static int countRows(Ways ways, int k, int n) {
             if (k >= n || k >= FARTHEST) {
                 return 1;
             }
             int rows = 0;
-            for (int p = 0; p < home.people; p++) {
-                for (int q = p + 1; q < home.people; q++) {
+            for (int p = 0; p < ways.home.people; p++) {
+                for (int q = p + 1; q < ways.home.people; q++) {
                     int pair = House.pairOf(p, q);
-                    if (bounds[k][pair] >= 0 && standsBehindChosen(pair, k)) {
-                        chosen[k] = pair;
-                        rows += countRows(k + 1, n);
+                    if (ways.bounds[k][pair] >= 0 && ways.standsBehindChosen(pair, k)) {
+                        ways.chosen[k] = pair;
+                        rows += countRows(ways, k + 1, n);
                     }
                 }
             }
@@ -1410,7 +1410,7 @@ public final class TillPairs {
             this.number = number;
             this.a = a;
             parted = false;
-            int answer = run(bodyOf(kind, act), x, 0);
+            int answer = run(this, bodyOf(kind, act), x, 0);
             return parted ? PARTED : answer;
         }
 
@@ -1426,26 +1426,26 @@ public final class TillPairs {
         }
 
         // After a parting by 0 no body begins any more: its answer is the whole answer.
-        private int run(int body, int x, int depth) {
-            if (parted || depth > DEEPEST) {
+        private static int run(Acts of, int body, int x, int depth) {
+            if (of.parted || depth > DEEPEST) {
                 return 0;
             }
-            note(body);
+            of.note(body);
             int deeper = depth + 1;
             switch (body) {
-                case 10: return x + number;
-                case 11: return run(bodyOf(kind, SITS), x, deeper) * 2;
-                case 12: return share(x);
-                case 13: return run(bodyOf(kind, COUNTS), x, deeper) ^ a;
-                case 20: return run(bodyOf(PLAIN, COUNTS), x, deeper) - a;
-                case 30: return run(bodyOf(PLAIN, SITS), x, deeper) * 3;
-                case 31: return run(bodyOf(PLAIN, TELLS), x, deeper) + run(bodyOf(kind, SHARES), number, deeper);
-                case 40: return 0 - run(bodyOf(DRAW, SITS), x, deeper);
-                case 41: return run(bodyOf(DRAW, COUNTS), x, deeper) + run(bodyOf(kind, SITS), number, deeper);
-                case 50: return run(bodyOf(TURN, SHARES), x + 2, deeper) ^ 1;
-                case 51: return run(bodyOf(TURN, SITS), x, deeper) - number;
-                case 60: return run(bodyOf(PLAIN, TELLS), x, deeper) * 2;
-                case 61: return run(bodyOf(PLAIN, SHARES), x, deeper) + run(bodyOf(kind, SITS), a, deeper);
+                case 10: return x + of.number;
+                case 11: return run(of, bodyOf(of.kind, SITS), x, deeper) * 2;
+                case 12: return of.share(x);
+                case 13: return run(of, bodyOf(of.kind, COUNTS), x, deeper) ^ of.a;
+                case 20: return run(of, bodyOf(PLAIN, COUNTS), x, deeper) - of.a;
+                case 30: return run(of, bodyOf(PLAIN, SITS), x, deeper) * 3;
+                case 31: return run(of, bodyOf(PLAIN, TELLS), x, deeper) + run(of, bodyOf(of.kind, SHARES), of.number, deeper);
+                case 40: return 0 - run(of, bodyOf(DRAW, SITS), x, deeper);
+                case 41: return run(of, bodyOf(DRAW, COUNTS), x, deeper) + run(of, bodyOf(of.kind, SITS), of.number, deeper);
+                case 50: return run(of, bodyOf(TURN, SHARES), x + 2, deeper) ^ 1;
+                case 51: return run(of, bodyOf(TURN, SITS), x, deeper) - of.number;
+                case 60: return run(of, bodyOf(PLAIN, TELLS), x, deeper) * 2;
+                case 61: return run(of, bodyOf(PLAIN, SHARES), x, deeper) + run(of, bodyOf(of.kind, SITS), of.a, deeper);
                 default: return 0;
             }
         }
