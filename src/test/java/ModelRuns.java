@@ -7,7 +7,7 @@ import java.util.List;
  * row of numbers, so every run of this test is the same.
  */
 public final class ModelRuns {
-    private static final int RUNS = 400, CALLS = 512;
+    private static final int RUNS = 400, CALLS = 480; // a text told at the end may add some: below 512 in all
     private static int wrong = 0;
     private static long state = 1;
 

@@ -1,15 +1,5 @@
 /** A test for each promise of the document: ordinary inputs, the edges that it names, and wrong inputs. */
-public final class PromiseTests {
-    private static final int BAD = -1, FULL = -2, NONE = -3;
-    private static int wrong = 0;
-
-    private static void due(int promise, String what, long got, long want) {
-        if (got != want) {
-            wrong++;
-            System.out.println("promise " + promise + ": " + what + " answered " + got + ", due is " + want);
-        }
-    }
-
+public final class PromiseTests extends Checks {
     public static void main(String[] args) {
         newObject();
         feed();
@@ -53,53 +43,7 @@ public final class PromiseTests {
         days();
         many();
         keepAndAgain();
-        System.out.println(wrong == 0 ? "all promises hold" : wrong + " answers are not as due");
-        if (wrong != 0) {
-            System.exit(1);
-        }
-    }
-
-    // ---- helpers
-
-    private static TillPairs with(int people) {
-        TillPairs x = new TillPairs();
-        for (int i = 0; i < people; i++) {
-            x.person();
-        }
-        return x;
-    }
-
-    private static void feedText(TillPairs x, String text) {
-        for (int i = 0; i < text.length(); i += 8) {
-            int n = Math.min(8, text.length() - i);
-            long eight = 0;
-            for (int j = n - 1; j >= 0; j--) {
-                eight = eight << 8 | text.charAt(i + j);
-            }
-            x.feed(eight, n);
-        }
-    }
-
-    private static int told(TillPairs x, String text) {
-        feedText(x, text);
-        return x.house();
-    }
-
-    private static void till(TillPairs x, int day, int p, int q) {
-        x.post(day, 0, p);
-        x.post(day, 1, q);
-    }
-
-    private static void laws(TillPairs x, int take, int pain, int eye, int counter, int reader) {
-        x.set(0, take);
-        x.set(1, pain);
-        x.set(2, eye);
-        x.set(3, counter);
-        x.set(4, reader);
-    }
-
-    private static int digits(int p0, int p1, int p2, int p3) {
-        return p0 + 8 * p1 + 64 * p2 + 512 * p3;
+        end();
     }
 
     // ---- the house
@@ -854,9 +798,9 @@ public final class PromiseTests {
 
     private static void fillByCount() {
         int[] all = {0, 1, 2, 3, 4, 5};
-        TillPairs x = with(6);
-        x.plan(3, 0);
         for (int z = 1; z < 40; z++) {
+            TillPairs x = with(6);
+            x.plan(3, 0);
             int[] due = drawn(z, all);
             int least = 0;
             while (least == due[0] || least == due[1] || least == due[2]) {
@@ -876,9 +820,9 @@ public final class PromiseTests {
     }
 
     private static void fillByCountNotKin() {
-        TillPairs x = with(5);
-        x.plan(3, 0);
         for (int z = 1; z < 40; z++) {
+            TillPairs x = with(5);
+            x.plan(3, 0);
             int[] due = drawn(z, new int[] {0, 1, 2, 3, 4});
             int[] left = new int[2];
             int many = 0;
