@@ -471,6 +471,11 @@ public final class HostEdges extends Checks {
             act(shelved(n, REST, n), 0, TELLS, 5, 2 * 5 - n ^ n, 13, 20, 11, 51, 10);
             act(shelved(n, AS_TOLD, n), 0, TELLS, 5, (2 * (5 + n) ^ n) * 2, 60, 13, 11, 10);
             act(shelved(n, DRAW, n), 0, COUNTS, 5, 6 * (5 + n), 11, 30, 10);
+            int one = n + 1;
+            act(shelved(n, DRAW, one), 0, TELLS, 5, (6 * (5 + n) ^ one) + n, 31, 13, 11, 30, 10, 12);
+            if (n > 0) {
+                act(shelved(n, DRAW, 0), 0, TELLS, 5, 6 * (5 + n) - 1, 31, 13, 11, 30, 10, 12);
+            }
         }
     }
 

@@ -61,6 +61,10 @@ public final class HouseEdges extends Checks {
         due(1, "no way to sit", x.mended(0, 0), NONE);
         due(1, "no rows ahead", x.ahead(0, 1), 0);
         due(1, "z", x.seed(1), 1);
+        due(1, "BAD", TillPairs.BAD, -1);
+        due(1, "FULL", TillPairs.FULL, -2);
+        due(1, "NONE", TillPairs.NONE, -3);
+        due(1, "STATE", TillPairs.STATE, -4);
     }
 
     private static void newHasNothing() {
@@ -327,6 +331,15 @@ public final class HouseEdges extends Checks {
         fault("person;away 000 on 1;", 12);
         fault("person;away 0 on 001;", 17);
         fault("person;away 0 on 1 and 001;", 23);
+        fault("person;person;kin 99 0;", 18);
+        fault("person;person;kin 0 99;", 20);
+        fault("person;person;kin 999 0;", 18);
+        fault("person;person;trust 99 0 1;", 20);
+        fault("person;person;trust 0 99 1;", 22);
+        fault("person;person;trust 999 999 999;", 20);
+        fault("person;away 99 on 1;", 12);
+        fault("person;away 0 on 99;", 17);
+        fault("person;away 999 on 999;", 12);
         fault("tell 4294967296;", 5);
         fault("tell 4294967297;", 5);
         fault("tell 18446744073709551616;", 5);
@@ -466,6 +479,10 @@ public final class HouseEdges extends Checks {
             fault(name.substring(0, name.length() - 1) + " 0;", 0);
             fault(name + "s 0;", 0);
             fault("x" + name + " 0;", 0);
+            for (char letter = 'a'; letter <= 'z'; letter++) {
+                fault(name + letter + " 0;", 0);
+                fault(letter + name + " 0;", 0);
+            }
             fault(Character.toUpperCase(name.charAt(0)) + name.substring(1) + " 0;", 0);
             fault(name + "  ", name.length() + 2);
             for (int i = 0; i < name.length(); i++) {

@@ -1,10 +1,20 @@
+import java.lang.reflect.Constructor;
+import java.lang.reflect.Field;
+import java.lang.reflect.Method;
+import java.lang.reflect.Modifier;
 import java.nio.file.Files;
 import java.nio.file.Path;
+import java.util.HashMap;
+import java.util.HashSet;
+import java.util.Map;
+import java.util.Set;
+import java.util.TreeSet;
 import java.util.regex.Matcher;
 import java.util.regex.Pattern;
 
-/** What can be seen in the program's text of the rules in ../shared/LANGUAGE.md; run from the project's folder. */
+/** What can be seen in the program of the rules in ../shared/LANGUAGE.md; run from the project's folder. */
 public final class LanguageRules {
+    private static final int DEEPEST = 8;
     private static int wrong = 0;
 
     public static void main(String[] args) throws Exception {
@@ -22,7 +32,14 @@ public final class LanguageRules {
         while (imports.find()) {
             same("import", imports.group(1), "java.util.Arrays");
         }
-        longMethods(code);
+        face();
+        members();
+        Map<String, String> bodies = methods(code);
+        noObjectsByCalls(bodies);
+        Set<String> open = new HashSet<>();
+        for (String name : bodies.keySet()) {
+            deep(name, bodies, open, "");
+        }
         System.out.println(wrong == 0 ? "no rule is seen broken" : wrong + " rules are broken");
         if (wrong != 0) {
             System.exit(1);
@@ -37,29 +54,141 @@ public final class LanguageRules {
         }
     }
 
-    private static void same(String what, String got, String want) {
+    private static void same(String what, Object got, Object want) {
         if (!got.equals(want)) {
             wrong++;
-            System.out.println(what + ": " + got);
+            System.out.println(what + ": " + got + ", not " + want);
         }
     }
 
-    private static void longMethods(String code) {
-        int lines = 0;
+    private static void atMost(String what, int got, int most) {
+        if (got > most) {
+            wrong++;
+            System.out.println(what + ": " + got + ", at most " + most);
+        }
+    }
+
+    /** Rule 1: the document's face, and nothing beside it that isn't private. */
+    private static void face() throws Exception {
+        Set<String> told = new TreeSet<>();
+        String doc = Files.readString(Path.of("../shared/DOC.md"));
+        Matcher lines = Pattern.compile("(?m)^    public (int|long) (\\w+)\\((.*)\\);").matcher(doc);
+        while (lines.find()) {
+            told.add(lines.group(1) + " " + lines.group(2) + "(" + lines.group(3).replaceAll(" \\w+(,|$)", "$1") + ")");
+        }
+        Set<String> stands = new TreeSet<>(), open = new HashSet<>();
+        for (Method m : TillPairs.class.getDeclaredMethods()) {
+            if (!Modifier.isPrivate(m.getModifiers()) && !m.isSynthetic()) {
+                StringBuilder types = new StringBuilder();
+                for (Class<?> type : m.getParameterTypes()) {
+                    types.append(types.length() == 0 ? "" : ", ").append(type.getSimpleName());
+                }
+                stands.add(m.getReturnType().getSimpleName() + " " + m.getName() + "(" + types + ")");
+                same("public, not static: " + m, m.getModifiers(), Modifier.PUBLIC);
+                open.add(m.getName());
+            }
+        }
+        same("the face (1)", stands, told);
+        same("methods of the face (1)", told.size(), 44);
+        same("public and final (1)", TillPairs.class.getModifiers(), Modifier.PUBLIC | Modifier.FINAL);
+        same("constructors (1)", TillPairs.class.getConstructors().length, 1);
+        same("constructors in all (1)", TillPairs.class.getDeclaredConstructors().length, 1);
+        for (Class<?> inner : TillPairs.class.getDeclaredClasses()) {
+            for (Method m : inner.getDeclaredMethods()) {
+                same("a method inside bears a public name (1): " + m, open.contains(m.getName()), false);
+            }
+        }
+        for (Method m : TillPairs.class.getDeclaredMethods()) {
+            if (Modifier.isPrivate(m.getModifiers())) {
+                same("a private method bears a public name (1): " + m, open.contains(m.getName()), false);
+            }
+        }
+    }
+
+    /** Rules 1, 2, 5 and 11: fields, classes inside, parameters. */
+    private static void members() {
+        Set<String> constants = new TreeSet<>();
+        for (Field f : TillPairs.class.getDeclaredFields()) {
+            if (!Modifier.isPrivate(f.getModifiers())) {
+                constants.add(f.getName());
+                same("a constant: " + f, f.getModifiers(), Modifier.PUBLIC | Modifier.STATIC | Modifier.FINAL);
+            }
+        }
+        same("public constants (1)", constants.toString(), "[BAD, FULL, NONE, STATE]");
+        Class<?>[] inner = TillPairs.class.getDeclaredClasses();
+        atMost("classes (11)", inner.length + 1, 12);
+        size(TillPairs.class);
+        for (Class<?> c : inner) {
+            same("a class inside is static (2): " + c, Modifier.isStatic(c.getModifiers()), true);
+            same("a class inside isn't public (1): " + c, Modifier.isPublic(c.getModifiers()), false);
+            size(c);
+        }
+    }
+
+    private static void size(Class<?> c) {
+        int fields = 0;
+        for (Field f : c.getDeclaredFields()) {
+            fields += Modifier.isStatic(f.getModifiers()) ? 0 : 1;
+            same("a static field is final (5): " + f,
+                    !Modifier.isStatic(f.getModifiers()) || Modifier.isFinal(f.getModifiers()), true);
+        }
+        atMost("fields of " + c + " (11)", fields, 20);
+        for (Method m : c.getDeclaredMethods()) {
+            atMost("parameters of " + m + " (11)", m.getParameterCount(), 7);
+        }
+        for (Constructor<?> k : c.getDeclaredConstructors()) {
+            atMost("parameters of " + k + " (11)", k.getParameterCount(), 7);
+        }
+    }
+
+    /** The bodies by their methods' names (of one name all together); rule 11: none is longer than 60 lines. */
+    private static Map<String, String> methods(String code) {
+        Map<String, String> bodies = new HashMap<>();
+        Pattern head = Pattern.compile("( {4}| {8})(?:[\\w\\[\\]]+ )*(\\w+)\\(.*\\) \\{");
         String name = null;
+        StringBuilder body = new StringBuilder();
+        int lines = 0;
         for (String line : code.split("\n")) {
-            if (line.matches("( {4}| {8})\\S.*\\(.*\\) \\{")) {
-                name = line.trim();
+            Matcher start = head.matcher(line);
+            if (name == null && start.matches()) {
+                name = start.group(2);
+                body.setLength(0);
                 lines = 0;
             }
             lines++;
             if (name != null && line.matches("( {4}| {8})\\}")) {
-                if (lines > 60) {
-                    wrong++;
-                    System.out.println("a method of " + lines + " lines (11): " + name);
-                }
+                atMost("lines of " + name + " (11)", lines, 60);
+                bodies.merge(name, body.toString(), String::concat);
                 name = null;
+            } else if (name != null && lines > 1) {
+                body.append(line).append('\n');
             }
         }
+        return bodies;
+    }
+
+    /** All calls live in one room: what is made is made by constructors. */
+    private static void noObjectsByCalls(Map<String, String> bodies) {
+        for (Map.Entry<String, String> e : bodies.entrySet()) {
+            if (Character.isLowerCase(e.getKey().charAt(0))) {
+                never(e.getValue(), "an object made by " + e.getKey(), "\\bnew \\w+");
+            }
+        }
+    }
+
+    /** Rule 11: calls that are no recursion go at most eight deep. Methods of one name count as one. */
+    private static void deep(String name, Map<String, String> bodies, Set<String> open, String way) {
+        if (!open.add(name)) {
+            return;
+        }
+        atMost("deep by" + way + " " + name + " (11)", open.size(), DEEPEST);
+        Matcher calls = Pattern.compile("\\b(\\w+)\\(").matcher(bodies.get(name));
+        Set<String> called = new HashSet<>();
+        while (calls.find()) {
+            if (bodies.containsKey(calls.group(1)) && called.add(calls.group(1))) {
+                deep(calls.group(1), bodies, open, way + " " + name);
+            }
+        }
+        open.remove(name);
     }
 }

@@ -37,7 +37,7 @@ public final class ModelRuns {
             return n;
         }
         if (r == 2) {
-            return r % 2 == 0 ? Integer.MIN_VALUE : Integer.MAX_VALUE;
+            return below(2) == 0 ? Integer.MIN_VALUE : Integer.MAX_VALUE;
         }
         return below(n);
     }
