@@ -1,3 +1,6 @@
+import java.io.DataInputStream;
+import java.io.IOException;
+import java.lang.reflect.Array;
 import java.lang.reflect.Constructor;
 import java.lang.reflect.Field;
 import java.lang.reflect.Method;
@@ -6,6 +9,7 @@ import java.nio.file.Files;
 import java.nio.file.Path;
 import java.util.HashMap;
 import java.util.HashSet;
+import java.util.IdentityHashMap;
 import java.util.Map;
 import java.util.Set;
 import java.util.TreeSet;
@@ -15,6 +19,13 @@ import java.util.regex.Pattern;
 /** What can be seen in the program of the rules in ../shared/LANGUAGE.md; run from the project's folder. */
 public final class LanguageRules {
     private static final int DEEPEST = 8;
+    private static final int MOST_OBJECTS = 100, MOST_CELLS = 2000;
+    /** Rule 4 as the compiled class names it; lists aren't here, as the program has none. */
+    private static final Pattern LIBRARY = Pattern.compile("java/lang/Object\\.<init>"
+            + "|java/lang/String\\.(length|charAt|isEmpty|equals|indexOf|substring|toCharArray|<init>)"
+            + "|java/lang/StringBuilder\\.(<init>|append|charAt|setCharAt|setLength|deleteCharAt|reverse|length|toString)"
+            + "|java/lang/(Integer|Long|Math)\\.(compare|max|min|abs|bitCount|floorDiv|floorMod)"
+            + "|java/lang/System\\.arraycopy|java/util/Arrays\\.(copyOf|copyOfRange|fill)");
     private static int wrong = 0;
 
     public static void main(String[] args) throws Exception {
@@ -34,6 +45,11 @@ public final class LanguageRules {
         }
         face();
         members();
+        library(TillPairs.class);
+        for (Class<?> inner : TillPairs.class.getDeclaredClasses()) {
+            library(inner);
+        }
+        room();
         Map<String, String> bodies = methods(code);
         noObjectsByCalls(bodies);
         Set<String> open = new HashSet<>();
@@ -138,6 +154,93 @@ public final class LanguageRules {
         }
         for (Constructor<?> k : c.getDeclaredConstructors()) {
             atMost("parameters of " + k + " (11)", k.getParameterCount(), 7);
+        }
+    }
+
+    /** Rule 4: what the compiled class calls outside itself. */
+    private static void library(Class<?> c) throws IOException {
+        try (DataInputStream in = new DataInputStream(c.getResourceAsStream(c.getName() + ".class"))) {
+            in.skipBytes(8);
+            int many = in.readUnsignedShort();
+            Object[] pool = new Object[many];
+            for (int i = 1; i < many; i++) {
+                int tag = in.readUnsignedByte();
+                pool[i] = entry(tag, in);
+                i += tag == 5 || tag == 6 ? 1 : 0;
+            }
+            for (Object entry : pool) {
+                if (entry instanceof int[] ref && ref.length == 3) {
+                    String owner = (String) pool[((int[]) pool[ref[1]])[0]];
+                    String name = owner + "." + pool[((int[]) pool[ref[2]])[0]];
+                    boolean own = owner.startsWith("TillPairs") || owner.startsWith("[");
+                    same("the library's " + name + " in " + c + " (4)",
+                            own || (ref[0] == 10 && LIBRARY.matcher(name).matches()), true);
+                }
+            }
+        }
+    }
+
+    /** An entry of the pool of constants: a text; tag, class and name of a member; or what it points at. */
+    private static Object entry(int tag, DataInputStream in) throws IOException {
+        switch (tag) {
+            case 1: return in.readUTF();
+            case 3: case 4: in.skipBytes(4); return null;
+            case 5: case 6: in.skipBytes(8); return null;
+            case 9: case 10: case 11: return new int[] {tag, in.readUnsignedShort(), in.readUnsignedShort()};
+            case 12: return new int[] {in.readUnsignedShort(), in.readUnsignedShort()};
+            case 7: case 8: return new int[] {in.readUnsignedShort()};
+            default: throw new IOException("a constant of tag " + tag + ", as lambdas and joined texts make them");
+        }
+    }
+
+    /** Rule 12 and the one room: what an object takes when it is made, and that calls don't make it more. */
+    private static void room() throws Exception {
+        TillPairs x = new TillPairs();
+        long[] made = new long[2];
+        walk(x, new IdentityHashMap<>(), made);
+        atMost("objects of a new TillPairs (12)", (int) made[0], MOST_OBJECTS);
+        atMost("fields and elements of a new TillPairs (12)", (int) made[1], MOST_CELLS);
+        for (int i = 0; i < 8; i++) {
+            x.person();
+            x.plan(1 + i % 5, i);
+            x.fill(i, i);
+            x.feed(0x3b6e6f73726570L, 7);
+        }
+        x.mended(0, 0);
+        x.ahead(0, 3);
+        x.best(0, 1, 0);
+        x.prove();
+        x.keep();
+        x.house();
+        x.again();
+        long[] later = new long[2];
+        walk(x, new IdentityHashMap<>(), later);
+        same("objects after calls (12)", later[0], made[0]);
+        same("fields and elements after calls (12)", later[1], made[1]);
+    }
+
+    private static void walk(Object at, IdentityHashMap<Object, Object> met, long[] counts) throws Exception {
+        if (at == null || met.put(at, at) != null) {
+            return;
+        }
+        counts[0]++;
+        if (at.getClass().isArray()) {
+            counts[1] += Array.getLength(at);
+            if (at instanceof Object[] parts) {
+                for (Object part : parts) {
+                    walk(part, met, counts);
+                }
+            }
+            return;
+        }
+        for (Field f : at.getClass().getDeclaredFields()) {
+            if (!Modifier.isStatic(f.getModifiers())) {
+                counts[1]++;
+                if (!f.getType().isPrimitive()) {
+                    f.setAccessible(true);
+                    walk(f.get(at), met, counts);
+                }
+            }
         }
     }
 
